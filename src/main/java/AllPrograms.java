@@ -1223,7 +1223,7 @@ public final class AllPrograms {
                 digits++;
             }
             if (digits > 0) {
-                ask.writeNumber(value);
+                ask.write(Ask.FIRST_NUMBER + value);
             } else if (Ask.isName(here())) {
                 ask.write(here());
                 place++;
@@ -1239,8 +1239,8 @@ public final class AllPrograms {
 
     /** A TASK: numbers, NAMES and signs, each sign behind what it joins, and the input. */
     private static final class Ask {
-        /** Codes below this are numbers; a NAME or a sign is this and its byte. */
-        private static final int SIGNS = NUMBERS;
+        /** A code below this is a NAME or a sign, by its byte; the others are numbers, from this on. */
+        static final int FIRST_NUMBER = 256;
 
         private final int[] codes = new int[Tape.MOST_BYTES];
         private int length = 0;
@@ -1253,15 +1253,11 @@ public final class AllPrograms {
             input = newInput;
         }
 
-        void writeNumber(int code) {
+        void write(int code) {
             if (length < codes.length) {
                 codes[length] = code;
                 length++;
             }
-        }
-
-        void write(int sign) {
-            writeNumber(SIGNS + sign);
         }
 
         int input() {
@@ -1278,16 +1274,16 @@ public final class AllPrograms {
             }
             height = 0;
             for (int i = 0; i < length && i < codes.length; i++) {
-                int sign = codes[i] - SIGNS;
-                if (sign < 0) {
-                    push(codes[i]);
-                } else if (isName(sign)) {
-                    push(valueOf(sign, machine));
-                } else if (sign == '!') {
+                int code = codes[i];
+                if (code >= FIRST_NUMBER) {
+                    push(code - FIRST_NUMBER);
+                } else if (isName(code)) {
+                    push(valueOf(code, machine));
+                } else if (code == '!') {
                     push(1 - pop());
                 } else {
                     int right = pop();
-                    push(joined(pop(), sign, right));
+                    push(joined(pop(), code, right));
                 }
             }
             return pop() != 0;
