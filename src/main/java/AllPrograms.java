@@ -116,13 +116,7 @@ public final class AllPrograms {
     }
 
     public int order(int i) {
-        if (i == -1) {
-            return looked.length();
-        }
-        if (i < 0 || i >= looked.length()) {
-            return BAD;
-        }
-        return looked.orderAt(i);
+        return i == -1 ? looked.length() : looked.orderAt(i);
     }
 
     public int size(int language) {
@@ -440,9 +434,6 @@ public final class AllPrograms {
     }
 
     public int trace(int i) {
-        if (i < 0 || i >= acts.kept()) {
-            return BAD;
-        }
         return acts.keptAt(i);
     }
 
@@ -639,6 +630,7 @@ public final class AllPrograms {
             return length;
         }
 
+        /** BAD where there is none. */
         int orderAt(int i) {
             return i >= 0 && i < length && i < orders.length ? orders[i] : BAD;
         }
@@ -1376,7 +1368,6 @@ public final class AllPrograms {
             begun = 0;
             hanging = 0;
             int turns = found ? phase : phases;
-            boolean isAhead = true;
             walker.beEmpty();
             int size = language.follow(walker, turns);
             for (int k = 0; k < ENOUGH && size > 0; k++) {
@@ -1387,9 +1378,8 @@ public final class AllPrograms {
                 if (machine.state() == Machine.HANGS) {
                     hanging++;
                 }
-                if (found && isAhead && isAnswer()) {
+                if (found && isAnswer()) {
                     // those behind the ANSWER had no turn in its PHASE
-                    isAhead = false;
                     turns--;
                 }
                 size = language.follow(walker, turns);
@@ -1709,12 +1699,9 @@ public final class AllPrograms {
             return began;
         }
 
-        int kept() {
-            return Math.min(began, KEPT);
-        }
-
+        /** BAD where none is kept. */
         int keptAt(int i) {
-            return i >= 0 && i < kept() && i < trace.length ? trace[i] : BAD;
+            return i >= 0 && i < began && i < trace.length ? trace[i] : BAD;
         }
 
         void beEmpty() {

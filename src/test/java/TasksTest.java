@@ -162,9 +162,27 @@ public final class TasksTest {
     return m.task(input);
   }
 
+  /** What a faulty text left must not come into the next TASK. */
+  private static void faultsLeaveNothing() {
+    AllPrograms x = new AllPrograms();
+    x.language(33333333);
+    Due.clearAndAdd(x, 1, 3, 0);
+    for (int i = 0; i < 3; i++) {
+      Due.feed(x, "n+n+n+n+n+n+n+n+n+n+n+n+n+n+n+n+n+n+n+n+n+n+n+n+n+n+n+n+n+n+");
+      due("a long text that ends too early", x.task(0), -160);
+      due("task", Due.task(x, "f=" + (1 + i), 0), i);
+      due("passes: f=" + (1 + i), x.passes(0, i, 9), i == 0 ? 1 : 0);
+    }
+    due("the longest text", Due.task(x, "n+n+n+n+n+n+n+n+n+n+n+n+n+n+n+n+n+n+n+n+n+n+n+n+n+n+n+n=28", 0), 3);
+    due("passes the longest text", x.passes(0, 3, 9), 1);
+    due("deep in the other way", Due.task(x, "1=2|1=2|1=2|1=2|1=2|1=2|1=2|1=2|1=2|1=2|1=2|1=2|1=2|1=2|1=10", 0), 4);
+    due("does not pass", x.passes(0, 4, 9), 0);
+  }
+
   public static void main(String[] args) {
     promise13();
     promise14();
+    faultsLeaveNothing();
     promise15();
     promises16and17();
     Due.end();
