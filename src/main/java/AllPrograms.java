@@ -129,7 +129,7 @@ public final class AllPrograms {
 
     public int read(int language, int shelf, int i) {
         Language asked = languageAt(language);
-        if (asked == null || !shelves.isShelf(shelf) || i < 0) {
+        if (asked == null || !shelves.isShelf(shelf)) {
             return BAD;
         }
         if (shelves.holdsNothing(shelf)) {
@@ -581,6 +581,10 @@ public final class AllPrograms {
 
     /** Reads into spare; its SIZE, or NOT or STATE. */
     private int decoded(Language asked, int shelf, int from) {
+        if (from < 0) {
+            // no place of the ROW: the host refuses it as it does one behind the ROW's end
+            return NOT;
+        }
         spare.beEmpty();
         int code = 0;
         int bits = 0;

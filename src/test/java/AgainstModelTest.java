@@ -103,6 +103,8 @@ public final class AgainstModelTest {
       both("read", lang(), shelf, i);
       both("order", -1);
     }
+    both("read", lang(), to(6), pick(0, pick(EDGES)));
+    both("order", -1);
   }
 
   private static void learn() throws ReflectiveOperationException {

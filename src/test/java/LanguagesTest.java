@@ -138,7 +138,6 @@ public final class LanguagesTest {
     due("it ends ahead of one", x.read(0, 0, 16), NOT);
     due("it ended long ago", x.read(0, 0, 1000), NOT);
     due("it stays", Due.looked(x), 0x10L);
-    due("no such place", x.read(0, 0, -1), BAD);
     due("no such LANGUAGE", x.read(1, 0, 0), BAD);
     due("no such LANGUAGE", x.read(-1, 0, 0), BAD);
     due("no such SHELF", x.read(0, 6, 0), BAD);
@@ -167,6 +166,38 @@ public final class LanguagesTest {
     x.put(2, 25, -8);
     x.put(2, 24, 0);
     due("what is put is 0 or 1", x.read(0, 2, 24), NOT);
+  }
+
+  private static final int[] NO_PLACES = {-1, -2, -60, Integer.MIN_VALUE, 61, Integer.MAX_VALUE};
+
+  /** The host refuses a place that is not there: NOT, ahead of a ROW as behind it; no place makes BAD of the rest. */
+  private static void promise9NoPlaces() {
+    AllPrograms x = new AllPrograms();
+    x.language(22344455);
+    Due.bits(x, 0, "1101001100101000");
+    x.read(0, 0, 5);
+    Due.bits(x, 1, "00000000"); // ORDER 0 at each place, should one be looked at
+    Due.bits(x, 2, "");
+    x.keep(4, 3);
+    for (int i : NO_PLACES) {
+      due("a ROW's place " + i, x.read(0, 0, i), NOT);
+      due("a ROW of 0s, place " + i, x.read(0, 1, i), NOT);
+      due("a ROW of none, place " + i, x.read(0, 2, i), NOT);
+      due("nothing is there, place " + i, x.read(0, 3, i), NOT);
+      due("an ORDER, place " + i, x.read(0, 4, i), -12);
+      for (int sort = 0; sort < 4; sort++) {
+        x.row(5, sort, 20);
+        due("a ROW of sort " + sort + ", place " + i, x.read(0, 5, i), -12);
+      }
+      due("no such LANGUAGE, place " + i, x.read(1, 0, i), BAD);
+      due("no such SHELF, place " + i, x.read(0, 6, i), BAD);
+      due("no such SHELF, place " + i, x.read(0, -1, i), BAD);
+      due("it stays", Due.looked(x), 0x11230L);
+    }
+    x.keep(0, -1);
+    due("the SHELF was emptied", x.read(0, 0, -1), NOT);
+    AllPrograms y = new AllPrograms();
+    due("no LANGUAGE yet", y.read(0, 0, -1), BAD);
   }
 
   private static void dueRun(AllPrograms x, int input, int t, int state, int steps, int a, int b, int... said) {
@@ -334,6 +365,7 @@ public final class LanguagesTest {
     promise4();
     promises5to8();
     promise9();
+    promise9NoPlaces();
     promises10and11();
     skipsAndHangs();
     partsRun();

@@ -284,7 +284,7 @@ public final class Model {
 
   public int read(int language, int shelf, int i) {
     Lang l = lang(language);
-    if (l == null || shelf < 0 || shelf > 5 || i < 0) return BAD;
+    if (l == null || shelf < 0 || shelf > 5) return BAD;
     if (shelves[shelf] == null) return NOT;
     if (!(shelves[shelf] instanceof boolean[])) return -12;
     boolean[] row = (boolean[]) shelves[shelf];
@@ -304,7 +304,7 @@ public final class Model {
           return STATE;
         }
       }
-    } catch (ArrayIndexOutOfBoundsException ended) {
+    } catch (ArrayIndexOutOfBoundsException noPlace) {
       return NOT;
     }
     prog = got;
