@@ -1657,7 +1657,7 @@ public final class AllPrograms {
     /** ACTS of ORDERS: bodies that KINDS have of their own, or from above. */
     private static final class Acts {
         static final int PART = 6;
-        private static final int ORDER = 0, ENDS = 1, DOES = 2, SAYS = 3, TURNS = 4, JUMPS = 5;
+        private static final int ORDER = 0, ENDS = 1, DOES = 2, SAYS = 3, TURNS = 4, JUMPS = 5, KINDS = 7;
         private static final int STEPS = 0, COSTS = 1, GOES = 2, TELLS = 3;
         private static final int KEPT = 24;
         /** No act goes deeper than some six bodies. */
@@ -1680,7 +1680,7 @@ public final class AllPrograms {
             }
         }
 
-        /** A KIND above has a lower number; below 0 there is none. */
+        /** Below 0 where there is none above. */
         private static int above(int kind) {
             switch (kind) {
                 case ENDS: case DOES: case JUMPS: return ORDER;
@@ -1691,10 +1691,12 @@ public final class AllPrograms {
         }
 
         static boolean isUnder(int kind, int top) {
-            for (int now = kind; now >= ORDER; now = above(now)) {
+            int now = kind;
+            for (int level = 0; level < KINDS && now >= ORDER; level++) {
                 if (now == top) {
                     return true;
                 }
+                now = above(now);
             }
             return false;
         }
@@ -1721,11 +1723,13 @@ public final class AllPrograms {
 
         /** The body of a KIND, or of the next one above that has one. */
         private static int bodyOf(int kind, int act) {
-            for (int now = kind; now > ORDER; now = above(now)) {
+            int now = kind;
+            for (int level = 0; level < KINDS && now > ORDER; level++) {
                 int body = ownBody(now, act);
                 if (body > 0) {
                     return body;
                 }
+                now = above(now);
             }
             switch (act) {
                 case STEPS: return 1;

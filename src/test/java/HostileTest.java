@@ -1,7 +1,6 @@
 import java.lang.management.ManagementFactory;
 import java.lang.reflect.InvocationTargetException;
 import java.lang.reflect.Method;
-import java.util.ArrayList;
 import java.util.Arrays;
 import java.util.List;
 
@@ -36,21 +35,6 @@ public final class HostileTest {
     return x;
   }
 
-  /** All that can be asked without a change but of the SHELVES' and the TRACE's first ones alone. */
-  private static String seen(AllPrograms x) {
-    List<Long> all = new ArrayList<>();
-    for (int i = -1; i < 12; i++) all.add((long) x.order(i));
-    for (int i = 0; i < 5; i++) all.add((long) x.count(i));
-    for (int i = 0; i < 12; i++) all.add((long) x.trace(i));
-    for (int i = 0; i < 20; i++) all.add((long) x.ran(i));
-    for (int i = 0; i < 5; i++) all.add((long) x.searched(i));
-    for (int s = 0; s < 6; s++) for (int i = 0; i < 61; i += 10) all.add(x.element(s, i));
-    for (int s = 0; s < 6; s++) for (int k = 0; k < 7; k++) all.add((long) x.taken(s, k));
-    for (int l = 0; l < 6; l++) for (int o = 0; o < 12; o++) all.add((long) x.of(l, 10 + o));
-    all.add((long) x.votes(0, 6050, 2, 0));
-    return all.toString();
-  }
-
   private static boolean isRefusal(String name, long answer) {
     if (name.equals("act") || name.equals("search") || name.equals("trace") || name.equals("price")) return false;
     if (name.equals("task")) return answer == -1 || answer == -3;
@@ -59,11 +43,11 @@ public final class HostileTest {
 
   private static void call(AllPrograms x, int kind, Method method, Object[] args, boolean compare) throws ReflectiveOperationException {
     String call = "state " + kind + ": " + method.getName() + Arrays.toString(args);
-    String before = compare ? seen(x) : "";
+    List<Long> before = compare ? Seen.of(x) : List.of();
     try {
       long answer = ((Number) method.invoke(x, args)).longValue();
       if (compare && isRefusal(method.getName(), answer)) {
-        Due.due(call + ": refused, but all as before: ", seen(x).equals(before) ? 1 : 0, 1);
+        Due.due(call + ": refused, but all as before: ", Seen.of(x).equals(before) ? 1 : 0, 1);
       }
     } catch (InvocationTargetException thrown) {
       System.out.println(call + " threw " + thrown.getCause());
