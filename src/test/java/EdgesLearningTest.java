@@ -89,6 +89,7 @@ public final class EdgesLearningTest {
         language(66666666) -> 0; program(1, 2, 3, 0)
         learn(0, 0, 1, {0 7 -1 LEAST MOST}) -> BAD; learn(0, 0, 1, {1 6}) -> 1 2; of({1 2}, 18) -> 1 6
         learn(0, 1, 2, 3) -> 3; part(3, 8, {0 1}) -> 2 3; looked(1, 2, 3, 0); count(0) -> 4
+        language(21555556) -> 4; program(1, 1, 0); size(4) -> 4; learn(4, 0, 1, 6) -> 5; part(5, 8, {-1 0 1}) -> 2 1 1
         """);
     edge("Promise 24", "BAD (also ORDERS 0, 8 .. 11 among them, 4 PARTS);", """
         language(66666666) -> 0; program(1, 2, 3, 0)
